@@ -161,7 +161,7 @@ public final class SquareFolds {
         if (what < 0 || what > 2) {
             return BAD;
         }
-        gatherOrbit(square);
+        nameOrbit.gather(now.leastName(square), Integer.bitCount(now.piece(square)));
         switch (what) {
             case 0: return nameOrbit.names.count;
             case 1: return nameOrbit.cusps();
@@ -180,7 +180,7 @@ public final class SquareFolds {
         if (how == 0) {
             return name == now.leastName(square) ? 1 : 0;
         }
-        gatherOrbit(square);
+        nameOrbit.gather(now.leastName(square), Integer.bitCount(now.piece(square)));
         return nameOrbit.names.find(name) >= 0 ? 1 : 0;
     }
 
@@ -316,10 +316,6 @@ public final class SquareFolds {
             }
         }
         return true;
-    }
-
-    private void gatherOrbit(int square) {
-        nameOrbit.gather(now.leastName(square), Integer.bitCount(now.piece(square)));
     }
 
     private int groupSize() {
@@ -608,7 +604,7 @@ public final class SquareFolds {
         }
 
         long leastName(int square) {
-            int piece = piece(square);
+            int piece = reach(square, all(), 0);
             long least = nameFrom(square);
             for (int i = 0; i < squares; i++) {
                 if (Row.isIn(piece, i)) {
