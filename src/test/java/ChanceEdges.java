@@ -304,26 +304,33 @@ final class ChanceEdges {
     /** The same doings, called one by one on a surface by itself, come to the same sum. */
     private void drawnOneAfterTheOther() {
         edge.of(23, "how many CORNERS there are, and ROWS, and BANDS, each time, together");
-        for (int n = 1; n <= 5; n++) {
+        // The last three are not like their own mirrors, neither to the side nor upward.
+        String[] texts = {"S100", "S21001", "S3102210", "S412301302", "S51234010234", "S3120120", "S412300231", "S50234101342"};
+        for (String text : texts) {
             for (long seed = -20; seed < 20; seed++) {
-                SquareFolds folds = Due.surface(SurfaceEdges.WHOLE[n]);
-                SquareFolds called = Due.surface(SurfaceEdges.WHOLE[n]);
+                SquareFolds folds = Due.surface(text);
                 folds.seed(seed);
-                long x = seed;
-                int sum = 0;
-                for (int k = 0; k < 20; k++) {
-                    x = x * TIMES + AND;
-                    long upper = x >>> 33;
-                    if (upper % 4 < 3) {
-                        called.shear((int) (upper % 4));
-                    } else {
-                        called.trade((int) (upper / 8 % n), (int) (upper / 64 % n));
-                    }
-                    sum += called.about(2) + called.about(5) + called.about(6);
-                }
-                edge.is("drawn(20) of " + n + " by " + seed, folds.drawn(20), sum);
+                edge.is("drawn(20) of " + text + " by " + seed, folds.drawn(20), sumOfDoings(text, seed));
             }
         }
+    }
+
+    private static int sumOfDoings(String text, long seed) {
+        SquareFolds folds = Due.surface(text);
+        int n = folds.about(0);
+        long x = seed;
+        int sum = 0;
+        for (int k = 0; k < 20; k++) {
+            x = x * TIMES + AND;
+            long upper = x >>> 33;
+            if (upper % 4 < 3) {
+                folds.shear((int) (upper % 4));
+            } else {
+                folds.trade((int) (upper / 8 % n), (int) (upper / 64 % n));
+            }
+            sum += folds.about(2) + folds.about(5) + folds.about(6);
+        }
+        return sum;
     }
 
     private void drawnChangesNothingElse() {

@@ -43,10 +43,16 @@ final class DoingEdges {
         SquareFolds folds = Due.surface("S412303210");
         edge.is("corners then", folds.shear(0), folds.about(2));
         edge.glued("SIDE", folds, "1230", "0321");
+        folds = Due.surface(FOUR);
+        folds.shear(0);
+        edge.glued("SIDE, where neither row is its own opposite", folds, "1230", "2130");
         edge.of(11, "UPWARD: R(i) becomes what was R of the SQUARE below i");
         folds = Due.surface("S412300132");
         edge.is("corners then", folds.shear(1), folds.about(2));
         edge.glued("UPWARD", folds, "1203", "0132");
+        folds = Due.surface(FOUR);
+        folds.shear(1);
+        edge.glued("UPWARD, where neither row is its own opposite", folds, "3102", "1302");
         edge.of(11, "QUARTER: R(i) becomes the SQUARE below i, U(i) what was R(i)");
         folds = Due.surface(FOUR);
         edge.is("corners then", folds.shear(2), folds.about(2));
