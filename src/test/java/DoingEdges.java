@@ -27,6 +27,7 @@ final class DoingEdges {
         fourteenDoings();
         nothingToUndo();
         orbits();
+        orbitsOneAfterTheOther();
         orbitsThatAreRefused();
         alikes();
         judgedNumbers();
@@ -246,6 +247,27 @@ final class DoingEdges {
         edge.is("its cusps", folds.orbit(4, 1), 1);
         edge.is("the piece of two again", folds.orbit(3, 0), 3);
         edge.is("its widest", folds.orbit(3, 2), 2);
+    }
+
+    /** Of each orbit no trace is left in the next one, be it greater or less. */
+    private void orbitsOneAfterTheOther() {
+        edge.of(14, "CUSPS: rings into which SIDE puts these NAMES (each to that of what it makes); WIDEST: how many NAMES the greatest one has.");
+        String[] texts = {"S100", "S21001", "S3120012", "S412300123", "S51234001234", "S51234010234", "S50124313402",
+            "S412033102", "S51243030241", "S50342120413", "S53104224310"};
+        int[][] want = {{1, 1, 1}, {3, 2, 2}, {4, 2, 3}, {6, 3, 4}, {6, 2, 5}, {18, 5, 6}, {24, 6, 6},
+            {4, 2, 3}, {12, 5, 4}, {12, 5, 4}, {24, 6, 6}};
+        for (int one = 0; one < texts.length; one++) {
+            for (int other = 0; other < texts.length; other++) {
+                SquareFolds folds = Due.surface(texts[one]);
+                folds.orbit(0, 0);
+                Due.tell(folds, texts[other]);
+                folds.surface();
+                for (int what = 0; what < 3; what++) {
+                    edge.is("orbit(0, " + what + ") of " + texts[other] + " behind " + texts[one],
+                        folds.orbit(0, what), want[other][what]);
+                }
+            }
+        }
     }
 
     private void orbitsThatAreRefused() {

@@ -328,6 +328,9 @@ final class SurfaceEdges {
         about(3, APART, 5);
         about(4, AROUND, 5);
         about(4, APART, 1);
+        for (int what = 0; what <= 7; what++) {
+            about(what, "S100", 1);
+        }
         edge.of(6, "ORDINARY is one of one TURN.");
         // Two corners of two turns each are not ordinary.
         about(3, "S401322301", 0);
@@ -480,9 +483,13 @@ final class SurfaceEdges {
             square(4, APART, i, 1 << i);
         }
         edge.of(9, "all ROWS that are CONTINUED one by the other, again and again, in any row, are one BAND");
-        for (int i = 0; i < 5; i++) {
-            square(4, "S50123412340", i, 31);
-            square(4, "S50123440123", i, 31);
+        // Columns of two squares and more, told upward and downward, are one band each.
+        for (String column : new String[] {"S20110", "S3012120", "S3012201", "S401231230", "S401233012", "S50123412340", "S50123440123"}) {
+            int n = column.charAt(1) - '0';
+            for (int i = 0; i < n; i++) {
+                square(4, column, i, (1 << n) - 1);
+            }
+            about(6, column, 1);
         }
         // A row that is continued by itself; and one that goes on without being gone on from.
         square(4, "S51234001234", 2, 31);
