@@ -13,7 +13,7 @@ import java.util.TreeSet;
 import java.util.regex.Matcher;
 import java.util.regex.Pattern;
 
-/** The public face, and those rules of LANGUAGE.md that can be seen without reading the code. */
+/** The public face, and those rules of LANGUAGE.md that a program can look for. */
 public final class LanguageTest {
     private static final Path SOURCE = Path.of("src/main/java/SquareFolds.java");
     private static final String[] FACE = {
@@ -44,7 +44,8 @@ public final class LanguageTest {
             Matcher matcher = Pattern.compile(form).matcher(code);
             DUE.holds("no " + form + " in the code", !matcher.find());
         }
-        shortMethods(code);
+        readerSees();
+        readCode();
         DUE.end();
     }
 
@@ -109,18 +110,50 @@ public final class LanguageTest {
         DUE.is(type + " has classes inside", type == SquareFolds.class ? 0 : type.getDeclaredClasses().length, 0);
     }
 
-    /** A method's head and its closing brace are the lines of one depth that open and end it. */
-    private static void shortMethods(String code) {
-        String[] lines = code.split("\n");
-        int start = 0;
-        for (int i = 0; i < lines.length; i++) {
-            if (lines[i].matches(" {4}( {4})?[^ ].*\\) \\{")) {
-                start = i;
-            }
-            if (lines[i].matches(" {4}( {4})?\\}")) {
-                boolean ofAClass = lines[i].startsWith("    }") && start < i && lines[start].startsWith("        ");
-                DUE.holds("sixty lines at most ahead of line " + i, ofAClass || i - start < 60);
-            }
+    /** The reader must see what is ruled out, or its silence says nothing. */
+    private static void readerSees() throws IOException {
+        String[][] told = {
+            {"rule 2: a lambda", "void a() { Runnable r = () -> { }; }"},
+            {"rule 2: a method reference", "void a() { Runnable r = this::a; }"},
+            {"rule 2: a local or anonymous class", "void a() { class B { } }"},
+            {"rule 3: the type of a", "double[][] a() { return null; } Object b; java.util.Map<Integer, Integer> a;"},
+            {"rule 4: Math.sqrt", "int a(int b) { return (int) Math.sqrt(b); }"},
+            {"rule 4: Math.addExact", "int a(int b) { return Math.addExact(b, b); }"},
+            {"rule 4: new Object", "boolean a() { return new Object() == null; }"},
+            {"rule 5: a static field that is not final, a", "static int a = 0;"},
+            {"rule 5: an array that is not written out, a", "static final int[] b = {1}; static final int[] a = b.clone();"},
+            {"rule 6: throw", "void a() { throw new IllegalStateException(); }"},
+            {"rule 6: try", "void a() { try { a(); } finally { a(); } }"},
+            {"rule 6: synchronized", "void a() { synchronized (this) { a(); } }"},
+            {"rule 6: assert", "void a() { assert true; }"},
+            {"rule 7: a divisor that is not looked at, c", "int a(int b, int c) { return b / c; }"},
+            {"rule 7: a divisor that is not looked at, c", "int a(int b, int c) { return b % c; }"},
+            {"rule 8: recursion", "void a() { b(); } void b() { a(); }"},
+            {"rule 9: a loop without a bound or a step", "void a() { for (;;) { a(); } }"},
+            {"rule 9: a loop whose end", "void a(boolean b) { while (b) { b = !b; } }"}};
+        Path folder = Files.createTempDirectory("language");
+        Path file = folder.resolve("SquareFolds.java");
+        for (String[] each : told) {
+            Files.writeString(file, "public final class SquareFolds { " + each[1] + " }");
+            CodeReader reader = CodeReader.of(file);
+            reader.deepest();
+            DUE.holds("the reader sees " + each[0] + " in " + each[1] + ", not only " + reader.faults,
+                reader.faults.stream().anyMatch(fault -> fault.startsWith(each[0])));
+        }
+        Files.delete(file);
+        Files.delete(folder);
+    }
+
+    private static void readCode() throws IOException {
+        CodeReader reader = CodeReader.of(SOURCE);
+        DUE.holds("methods were read", reader.lines.size() > FACE.length);
+        for (String method : reader.lines.keySet()) {
+            DUE.holds(method + " has sixty lines at most", reader.lines.get(method) <= 60);
+        }
+        int deepest = reader.deepest();
+        DUE.holds("calls go eight deep at most, not " + deepest, deepest <= 8);
+        for (String fault : reader.faults) {
+            DUE.holds(fault, false);
         }
     }
 }

@@ -3,7 +3,8 @@ import java.util.Random;
 
 /** SquareFolds beside PlainFolds: on every surface there is, and in runs of calls of all kinds. */
 public final class PlainModelTest {
-    private static final int RUNS = 400;
+    private static final int RUNS = 450;
+    /** What an object answers behind so many calls is free. */
     private static final int CALLS = 512;
     private static final int[] ODD = {Integer.MIN_VALUE, -9, -2, -1, 5, 6, 7, 10, 11, 31, 32, 33, 64, 255, 256, 1000, Integer.MAX_VALUE};
 
@@ -11,13 +12,13 @@ public final class PlainModelTest {
     private SquareFolds folds;
     private PlainFolds plain;
     private String at;
+    private int calls;
 
     public static void main(String[] args) {
         PlainModelTest test = new PlainModelTest();
-        for (int n = 1; n <= 4; n++) {
-            test.allSurfaces(n, 1);
+        for (int n = 1; n <= 5; n++) {
+            test.allSurfaces(n);
         }
-        test.allSurfaces(5, 7);
         Random chance = new Random(20261118);
         for (int run = 0; run < RUNS; run++) {
             test.run(chance, run);
@@ -29,21 +30,20 @@ public final class PlainModelTest {
         folds = new SquareFolds();
         plain = new PlainFolds();
         at = where;
+        calls = 0;
     }
 
-    /** Each surface of n squares, or each of so many. */
-    private void allSurfaces(int n, int each) {
+    private void allSurfaces(int n) {
         List<String> rows = Due.rows(n);
         int count = 0;
         for (String right : rows) {
             for (String up : rows) {
-                if (count++ % each == 0) {
-                    String text = "S" + n + right + up;
-                    anew(text + ": ");
-                    letters(text);
-                    is("surface()", folds.surface(), plain.surface());
-                    everything(n, count);
-                }
+                String text = "S" + n + right + up;
+                anew(text + ": ");
+                letters(text);
+                is("surface()", folds.surface(), plain.surface());
+                count++;
+                everything(n, count);
             }
         }
     }
@@ -87,15 +87,17 @@ public final class PlainModelTest {
     }
 
     private void is(String call, long got, long want) {
+        calls++;
         due.is(at + call, got, want);
     }
 
     private void run(Random chance, int run) {
         anew("run " + run + ": ");
-        for (int call = 0; call < CALLS; call++) {
-            at = "run " + run + ", call " + call + ": ";
-            if (chance.nextInt(60) == 0) {
-                letters(someText(chance));
+        while (calls < CALLS) {
+            at = "run " + run + ", behind " + calls + " calls: ";
+            String text = someText(chance);
+            if (chance.nextInt(60) == 0 && calls + text.length() + 2 <= CALLS) {
+                letters(text);
                 is("surface()", folds.surface(), plain.surface());
             } else if (chance.nextBoolean()) {
                 asked(chance);
@@ -161,7 +163,7 @@ public final class PlainModelTest {
                 break;
             }
             case 4: is("square(" + a + ", " + c + ")", folds.square(a, c), plain.square(a, c)); break;
-            case 5: is("name(" + a + ", " + b + ")", folds.name(a, b % 3), plain.name(a, b % 3)); break;
+            case 5: is("name(" + a + ", " + b % 3 + ")", folds.name(a, b % 3), plain.name(a, b % 3)); break;
             case 6: is("orbit(" + a + ", " + b + ")", folds.orbit(a, b), plain.orbit(a, b)); break;
             case 7: is("alike(" + a + ", " + b + ", " + c % 3 + ")", folds.alike(a, b, c % 3), plain.alike(a, b, c % 3)); break;
             case 8: {

@@ -390,7 +390,8 @@ public final class PromisesTest {
 
     private static String told(SquareFolds folds) {
         StringBuilder told = new StringBuilder();
-        for (int i = 0; i < folds.about(0); i++) {
+        int squares = folds.about(0);
+        for (int i = 0; i < squares; i++) {
             told.append(folds.go(i, 1)).append(folds.go(i, 3));
         }
         return told.toString();

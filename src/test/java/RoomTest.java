@@ -7,7 +7,8 @@ import java.util.Map;
 
 /** All calls of a run live in one room: an object is small, and its calls make nothing. */
 public final class RoomTest {
-    private static final int CALLS = 512;
+    /** So many that an object is not called more than 512 times, with the 14 calls that make its surface. */
+    private static final int ROUNDS = 17;
 
     private static final Due DUE = new Due();
     private static final Map<Object, Boolean> MET = new IdentityHashMap<>();
@@ -23,9 +24,9 @@ public final class RoomTest {
         com.sun.management.ThreadMXBean threads = (com.sun.management.ThreadMXBean) ManagementFactory.getThreadMXBean();
         threads.getCurrentThreadAllocatedBytes();
         long before = threads.getCurrentThreadAllocatedBytes();
-        dearest(folds);
+        int calls = dearest(folds);
         long made = threads.getCurrentThreadAllocatedBytes() - before;
-        DUE.holds("bytes that " + CALLS + " calls made: " + made, made < CALLS);
+        DUE.holds("bytes that " + calls + " calls made: " + made, made < calls);
         DUE.end();
     }
 
@@ -52,34 +53,40 @@ public final class RoomTest {
         }
     }
 
-    private static void dearest(SquareFolds folds) {
-        for (int call = 0; call < CALLS; call++) {
-            switch (call % 24) {
-                case 0: folds.write('S'); break;
-                case 1: folds.fault(); break;
-                case 2: folds.surface(); break;
-                case 3: folds.about(6); break;
-                case 4: folds.about(7); break;
-                case 5: folds.go(4, 4); break;
-                case 6: folds.walk(4, 4321); break;
-                case 7: folds.square(3, 4); break;
-                case 8: folds.square(3, 5); break;
-                case 9: folds.name(2, 0); break;
-                case 10: folds.name(2, 1); break;
-                case 11: folds.shear(call % 3); break;
-                case 12: folds.trade(1, 4); break;
-                case 13: folds.orbit(0, 1); break;
-                case 14: folds.orbit(0, 2); break;
-                case 15: folds.alike(0, 4, 1); break;
-                case 16: folds.judge(4, 1000200030007002L); break;
-                case 17: folds.share(3, true); break;
-                case 18: folds.see(1324, 0); break;
-                case 19: folds.which(); break;
-                case 20: folds.opens(3, false); break;
-                case 21: folds.drawn(20); break;
-                case 22: folds.keep(1); break;
-                default: folds.again(1); folds.undo(); folds.unsee(); folds.wipe(); break;
-            }
+    /** Each call once a round, with what is dearest for it. */
+    private static int dearest(SquareFolds folds) {
+        int calls = 0;
+        for (int round = 0; round < ROUNDS; round++) {
+            folds.wipe();
+            folds.write('S');
+            folds.fault();
+            folds.surface();
+            folds.about(6);
+            folds.about(7);
+            folds.go(4, 4);
+            folds.walk(4, 4321);
+            folds.square(3, 4);
+            folds.square(3, 5);
+            folds.name(2, 0);
+            folds.name(2, 1);
+            folds.keep(1);
+            folds.shear(round % 3);
+            folds.trade(1, 4);
+            folds.undo();
+            folds.orbit(0, 1);
+            folds.orbit(0, 2);
+            folds.alike(0, 4, 1);
+            folds.judge(4, 1000200030007002L);
+            folds.share(3, true);
+            folds.see(1324, 0);
+            folds.which();
+            folds.unsee();
+            folds.opens(3, false);
+            folds.seed(round);
+            folds.drawn(20);
+            folds.again(1);
+            calls += 28;
         }
+        return calls;
     }
 }
