@@ -1,24 +1,15 @@
-import com.sun.source.tree.AssertTree;
 import com.sun.source.tree.BinaryTree;
-import com.sun.source.tree.CatchTree;
 import com.sun.source.tree.ClassTree;
 import com.sun.source.tree.CompilationUnitTree;
-import com.sun.source.tree.DoWhileLoopTree;
 import com.sun.source.tree.ExpressionTree;
 import com.sun.source.tree.ForLoopTree;
 import com.sun.source.tree.ImportTree;
-import com.sun.source.tree.LambdaExpressionTree;
 import com.sun.source.tree.LineMap;
-import com.sun.source.tree.MemberReferenceTree;
 import com.sun.source.tree.MethodInvocationTree;
 import com.sun.source.tree.MethodTree;
 import com.sun.source.tree.NewClassTree;
-import com.sun.source.tree.SynchronizedTree;
-import com.sun.source.tree.ThrowTree;
 import com.sun.source.tree.Tree;
-import com.sun.source.tree.TryTree;
 import com.sun.source.tree.VariableTree;
-import com.sun.source.tree.WhileLoopTree;
 import com.sun.source.util.JavacTask;
 import com.sun.source.util.SourcePositions;
 import com.sun.source.util.TreePath;
@@ -27,6 +18,7 @@ import com.sun.source.util.Trees;
 import java.io.IOException;
 import java.nio.file.Path;
 import java.util.HashMap;
+import java.util.HashSet;
 import java.util.Map;
 import java.util.Set;
 import java.util.TreeMap;
@@ -50,6 +42,16 @@ final class CodeReader extends TreePathScanner<Void, Void> {
     /** Rule 3 leaves double and float too, which the program has no need of. */
     private static final Set<TypeKind> PRIMITIVES = Set.of(TypeKind.INT, TypeKind.LONG, TypeKind.SHORT,
         TypeKind.BYTE, TypeKind.CHAR, TypeKind.BOOLEAN);
+    /** What the program does without. Rule 10 leaves while and do, but the end of a for stands in its head. */
+    private static final Map<Tree.Kind, String> RULED_OUT = Map.of(
+        Tree.Kind.LAMBDA_EXPRESSION, "rule 2: a lambda",
+        Tree.Kind.MEMBER_REFERENCE, "rule 2: a method reference",
+        Tree.Kind.THROW, "rule 6: throw",
+        Tree.Kind.TRY, "rule 6: try",
+        Tree.Kind.SYNCHRONIZED, "rule 6: synchronized",
+        Tree.Kind.ASSERT, "rule 6: assert",
+        Tree.Kind.WHILE_LOOP, "rule 9: a loop whose end does not stand in its head",
+        Tree.Kind.DO_WHILE_LOOP, "rule 9: a loop whose end does not stand in its head");
 
     /** What was found, as the rule's number and the line. */
     final Set<String> faults = new TreeSet<>();
@@ -85,27 +87,27 @@ final class CodeReader extends TreePathScanner<Void, Void> {
     int deepest() {
         int most = 0;
         for (Element each : calls.keySet()) {
-            most = Math.max(most, depth(each, 1));
+            most = Math.max(most, depth(each, new HashSet<>()));
         }
         return most;
     }
 
-    private int depth(Element from, int open) {
-        if (open > 100) {
+    private int depth(Element from, Set<Element> open) {
+        if (!open.add(from)) {
             faults.add("rule 8: recursion through " + from);
-            return open;
+            return open.size();
         }
-        int most = open;
+        int most = open.size();
         for (Element next : calls.getOrDefault(from, Set.of())) {
-            most = Math.max(most, depth(next, open + 1));
+            most = Math.max(most, depth(next, open));
         }
+        open.remove(from);
         return most;
     }
 
-    private Void fault(int rule, String what, Tree tree) {
+    private void fault(String what, Tree tree) {
         LineMap map = unit.getLineMap();
-        faults.add("rule " + rule + ": " + what + " in line " + map.getLineNumber(positions.getStartPosition(unit, tree)));
-        return null;
+        faults.add(what + " in line " + map.getLineNumber(positions.getStartPosition(unit, tree)));
     }
 
     private boolean isOwn(Element element) {
@@ -119,18 +121,26 @@ final class CodeReader extends TreePathScanner<Void, Void> {
 
     private boolean isAllowed(TypeMirror type) {
         if (type.getKind() == TypeKind.ARRAY) {
-            return PRIMITIVES.contains(((ArrayType) type).getComponentType().getKind())
-                || isAllowed(((ArrayType) type).getComponentType());
+            return isAllowed(((ArrayType) type).getComponentType());
         }
         return type.getKind() == TypeKind.VOID || PRIMITIVES.contains(type.getKind())
             || type.getKind() == TypeKind.DECLARED && isOwn(((DeclaredType) type).asElement());
     }
 
     @Override
+    public Void scan(Tree tree, Void none) {
+        String ruledOut = tree == null ? null : RULED_OUT.get(tree.getKind());
+        if (ruledOut != null) {
+            fault(ruledOut, tree);
+        }
+        return super.scan(tree, none);
+    }
+
+    @Override
     public Void visitClass(ClassTree tree, Void none) {
         Tree around = getCurrentPath().getParentPath().getLeaf();
         if (!(around instanceof ClassTree) && !(around instanceof CompilationUnitTree)) {
-            fault(2, "a local or anonymous class", tree);
+            fault("rule 2: a local or anonymous class", tree);
         }
         return super.visitClass(tree, none);
     }
@@ -138,13 +148,13 @@ final class CodeReader extends TreePathScanner<Void, Void> {
     @Override
     public Void visitMethod(MethodTree tree, Void none) {
         method = trees.getElement(getCurrentPath());
-        calls.putIfAbsent(method, new java.util.HashSet<>());
+        calls.putIfAbsent(method, new HashSet<>());
         LineMap map = unit.getLineMap();
         long first = map.getLineNumber(positions.getStartPosition(unit, tree.getBody()));
         long last = map.getLineNumber(positions.getEndPosition(unit, tree));
         lines.put(method.getEnclosingElement() + "." + method, last - first + 1);
         if (tree.getReturnType() != null && !isAllowed(trees.getTypeMirror(new TreePath(getCurrentPath(), tree.getReturnType())))) {
-            fault(3, "the type of " + tree.getName(), tree);
+            fault("rule 3: the type of " + tree.getName(), tree);
         }
         super.visitMethod(tree, none);
         method = null;
@@ -155,14 +165,14 @@ final class CodeReader extends TreePathScanner<Void, Void> {
     public Void visitVariable(VariableTree tree, Void none) {
         Element element = trees.getElement(getCurrentPath());
         if (!isAllowed(element.asType())) {
-            fault(3, "the type of " + tree.getName(), tree);
+            fault("rule 3: the type of " + tree.getName(), tree);
         }
         if (element.getModifiers().contains(Modifier.STATIC)) {
             boolean isArray = element.asType().getKind() == TypeKind.ARRAY;
             if (!element.getModifiers().contains(Modifier.FINAL) || tree.getInitializer() == null) {
-                fault(5, "a static field that is not final, " + tree.getName(), tree);
+                fault("rule 5: a static field that is not final, " + tree.getName(), tree);
             } else if (isArray && tree.getInitializer().getKind() != Tree.Kind.NEW_ARRAY) {
-                fault(5, "an array that is not written out, " + tree.getName(), tree);
+                fault("rule 5: an array that is not written out, " + tree.getName(), tree);
             }
         }
         return super.visitVariable(tree, none);
@@ -175,7 +185,7 @@ final class CodeReader extends TreePathScanner<Void, Void> {
         if (!isOwn(called)) {
             boolean isSuper = called.getSimpleName().contentEquals("<init>");
             if (!isSuper && !LIBRARY.contains(name)) {
-                fault(4, name, tree);
+                fault("rule 4: " + name, tree);
             }
         } else if (method != null) {
             calls.get(method).add(called);
@@ -187,7 +197,7 @@ final class CodeReader extends TreePathScanner<Void, Void> {
     public Void visitNewClass(NewClassTree tree, Void none) {
         Element made = trees.getElement(getCurrentPath());
         if (!isOwn(made)) {
-            fault(4, "new " + tree.getIdentifier(), tree);
+            fault("rule 4: new " + tree.getIdentifier(), tree);
         }
         return super.visitNewClass(tree, none);
     }
@@ -195,19 +205,9 @@ final class CodeReader extends TreePathScanner<Void, Void> {
     @Override
     public Void visitForLoop(ForLoopTree tree, Void none) {
         if (tree.getCondition() == null || tree.getUpdate().isEmpty()) {
-            fault(9, "a loop without a bound or a step", tree);
+            fault("rule 9: a loop without a bound or a step", tree);
         }
         return super.visitForLoop(tree, none);
-    }
-
-    @Override
-    public Void visitWhileLoop(WhileLoopTree tree, Void none) {
-        return fault(9, "a loop whose end does not stand in its head", tree);
-    }
-
-    @Override
-    public Void visitDoWhileLoop(DoWhileLoopTree tree, Void none) {
-        return fault(9, "a loop whose end does not stand in its head", tree);
     }
 
     /** A divisor is a constant, or it is looked at in the same method: in a condition that names it. */
@@ -215,7 +215,7 @@ final class CodeReader extends TreePathScanner<Void, Void> {
     public Void visitBinary(BinaryTree tree, Void none) {
         boolean divides = tree.getKind() == Tree.Kind.DIVIDE || tree.getKind() == Tree.Kind.REMAINDER;
         if (divides && !isConstant(tree.getRightOperand()) && !isLookedAt(tree.getRightOperand().toString())) {
-            fault(7, "a divisor that is not looked at, " + tree.getRightOperand(), tree);
+            fault("rule 7: a divisor that is not looked at, " + tree.getRightOperand(), tree);
         }
         return super.visitBinary(tree, none);
     }
@@ -235,42 +235,10 @@ final class CodeReader extends TreePathScanner<Void, Void> {
     }
 
     @Override
-    public Void visitLambdaExpression(LambdaExpressionTree tree, Void none) {
-        return fault(2, "a lambda", tree);
-    }
-
-    @Override
-    public Void visitMemberReference(MemberReferenceTree tree, Void none) {
-        return fault(2, "a method reference", tree);
-    }
-
-    @Override
     public Void visitImport(ImportTree tree, Void none) {
-        return tree.getQualifiedIdentifier().toString().startsWith("java.util.") ? null : fault(4, "an import", tree);
-    }
-
-    @Override
-    public Void visitThrow(ThrowTree tree, Void none) {
-        return fault(6, "throw", tree);
-    }
-
-    @Override
-    public Void visitTry(TryTree tree, Void none) {
-        return fault(6, "try", tree);
-    }
-
-    @Override
-    public Void visitCatch(CatchTree tree, Void none) {
-        return fault(6, "catch", tree);
-    }
-
-    @Override
-    public Void visitSynchronized(SynchronizedTree tree, Void none) {
-        return fault(6, "synchronized", tree);
-    }
-
-    @Override
-    public Void visitAssert(AssertTree tree, Void none) {
-        return fault(6, "assert", tree);
+        if (!tree.getQualifiedIdentifier().toString().startsWith("java.util.")) {
+            fault("rule 4: an import", tree);
+        }
+        return null;
     }
 }
